@@ -1,0 +1,20 @@
+/** Counts and prints the answers that are not the ones that are due. */
+final class Due {
+    private int wrong = 0;
+    private String part = "";
+
+    void part(String name) {
+        part = name;
+    }
+
+    void is(String call, long got, long want) {
+        if (got == want) return;
+        wrong++;
+        System.out.println(part + ": " + call + " answered " + got + ", due is " + want);
+    }
+
+    void finish() {
+        System.out.println(wrong == 0 ? "all answers are as due" : wrong + " answers are not as due");
+        if (wrong != 0) System.exit(1);
+    }
+}
