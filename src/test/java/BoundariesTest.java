@@ -1,6 +1,6 @@
 import java.util.function.IntUnaryOperator;
 
-/** Each sentence of the promises 1 to 16 that names a boundary case or a refusal, one method a sentence. */
+/** Each sentence of the promises 1 to 16 that names a boundary case or a refusal; the refusals of one promise share a method. */
 public final class BoundariesTest {
     // 1 << 30, taken 60 times, wraps around to 0: a place that is there.
     private static final int[] BAD_LINES = {

@@ -5,7 +5,8 @@ import java.util.function.Supplier;
 import java.util.function.ToIntFunction;
 
 /**
- * All that can be seen of an object. Every question is put to an object made afresh,
+ * What can be seen of an object, with has asked of the numbers that a test's object can hold and some
+ * beyond, and the limits found by filling the line. Every question is put to an object made afresh,
  * because only 512 calls on one object are promised to be answered.
  */
 final class Sight {

@@ -1,7 +1,7 @@
 import java.util.function.Consumer;
 import java.util.function.Supplier;
 
-/** Each sentence of the sections 'What it is' and 'Terms' that names a boundary case, one method a sentence. */
+/** Each sentence of the sections 'What it is' and 'Terms' that names a boundary case. */
 public final class TermsTest {
     private static final int[] WIDTHS = {4, 5, 31, 63, 64};
     private static final int[] GOOD_PROOFS = {1, -1, 2, 256, 65536, Integer.MIN_VALUE, Integer.MAX_VALUE};
